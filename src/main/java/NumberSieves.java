@@ -335,6 +335,17 @@ public final class NumberSieves {
             }
         }
 
+        /** Marks first, first + step, .. below end: one test for all, as sieves spend their time here. */
+        void markEvery(int first, int step, int end) {
+            if (first < 0 || step < 1) {
+                return;
+            }
+            int bound = Math.min(end, words.length * 64);
+            for (int k = first; k < bound; k += step) {
+                words[k >> 6] |= 1L << (k & 63);
+            }
+        }
+
         boolean isMarked(int k) {
             int word = k >> 6;
             return word >= 0 && word < words.length && (words[word] >>> (k & 63) & 1L) != 0;
@@ -382,9 +393,7 @@ public final class NumberSieves {
             if (p < 2 || p > TABLE_TOP / p) {
                 return;
             }
-            for (int v = p * p; v <= TABLE_TOP; v += 2 * p) {
-                composite.mark(v);
-            }
+            composite.markEvery(p * p, 2 * p, TABLE_TOP + 1);
         }
 
         /** Prime number i from 0 on; 0 behind the last one. */
@@ -781,9 +790,7 @@ public final class NumberSieves {
             for (int turn = 0; turn < step && v % step != start; turn++) {
                 v += 2 * p;
             }
-            for (int k = (v - start) / step; k < terms; k += p) {
-                struck.mark(k);
-            }
+            struck.markEvery((v - start) / step, p, terms);
         }
     }
 
