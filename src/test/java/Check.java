@@ -2,8 +2,16 @@
 final class Check {
     private static int wrong = 0;
     private static int compared = 0;
+    private static String sentence = "";
 
     private Check() {
+    }
+
+    /** What is compared from here on tests these words, which must stand in that section of the document. */
+    static void sentence(String section, String words) {
+        sentence = "";
+        holds("the document says in " + section + ": " + words, Doc.section(section).contains(words));
+        sentence = section + ", \"" + words + "\": ";
     }
 
     static void due(String call, long got, long want) {
@@ -11,7 +19,7 @@ final class Check {
         if (got != want) {
             wrong++;
             if (wrong <= 50) {
-                System.out.println(call + " answered " + got + ", due is " + want);
+                System.out.println(sentence + call + " answered " + got + ", due is " + want);
             }
         }
     }
