@@ -2,16 +2,21 @@
 final class Check {
     private static int wrong = 0;
     private static int compared = 0;
-    private static String sentence = "";
+    private static String place = "";
 
     private Check() {
     }
 
     /** What is compared from here on tests these words, which must stand in that section of the document. */
     static void sentence(String section, String words) {
-        sentence = "";
+        place = "";
         holds("the document says in " + section + ": " + words, Doc.section(section).contains(words));
-        sentence = section + ", \"" + words + "\": ";
+        place = section + ", \"" + words + "\": ";
+    }
+
+    /** Where what is compared from here on stands, told with each answer that is not as due. */
+    static void in(String where) {
+        place = where + ": ";
     }
 
     static void due(String call, long got, long want) {
@@ -19,7 +24,7 @@ final class Check {
         if (got != want) {
             wrong++;
             if (wrong <= 50) {
-                System.out.println(sentence + call + " answered " + got + ", due is " + want);
+                System.out.println(place + call + " answered " + got + ", due is " + want);
             }
         }
     }

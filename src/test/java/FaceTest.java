@@ -5,89 +5,135 @@ import java.lang.reflect.Method;
 import java.lang.reflect.Modifier;
 import java.nio.file.Files;
 import java.nio.file.Path;
-import java.util.Arrays;
+import java.util.ArrayList;
+import java.util.List;
 import java.util.Set;
 import java.util.TreeSet;
-import java.util.regex.Pattern;
 
-/** The public face is the document's and no more, and the source keeps to LANGUAGE.md. */
+/** The public face is the one of the document, word by word, and no more. */
 public final class FaceTest {
-    private static final String[] METHODS = {"int span(long,int)", "long least(int)", "int spanned(int)",
-        "int smooth(long,boolean)", "int prime(long)", "long next(long,boolean)", "int part(long)",
-        "long parts(int,int)", "long parted(int)", "long without(long)", "int count(int)", "long sum(int)",
-        "int among(int,int,int)", "long floors(int,int,int,int)", "long points(long)", "int rule(int)", "int sheet()",
-        "boolean tell(int,int,long)", "int product(int,int)", "int turned(int)", "void clear()", "long at(int,int)",
-        "long sumOf(int,int)", "int same(int,int)", "long far(int,int,int)", "int about(int)"};
+    private static final String HEAD = "public final class NumberSieves {";
+    private static final String MAKING = "public NumberSieves();";
+    private static final int PROMISES = 27;
 
-    private static final String[] FORBIDDEN = {"throw", "try", "catch", "synchronized", "assert", "->", "::", "Exact",
-        "System\\.(?!arraycopy)", "Math\\.sqrt", "double", "float"};
-
-    public static void main(String[] args) throws IOException {
+    public static void main(String[] args) throws IOException, IllegalAccessException {
+        List<String> face = face();
         Class<?> c = NumberSieves.class;
-        Check.holds("public final class", Modifier.isPublic(c.getModifiers()) && Modifier.isFinal(c.getModifiers()));
-        Check.due("constructors", c.getDeclaredConstructors().length, 1);
-        for (Constructor<?> made : c.getDeclaredConstructors()) {
-            Check.holds("public constructor without arguments",
-                Modifier.isPublic(made.getModifiers()) && made.getParameterCount() == 0);
-        }
-        methods(c);
-        fields(c);
-        for (Class<?> inside : c.getDeclaredClasses()) {
-            Check.holds(inside + " is static and not public",
-                Modifier.isStatic(inside.getModifiers()) && !Modifier.isPublic(inside.getModifiers()));
-        }
-        source();
+        classItself(c);
+        constructor(c, face);
+        methods(c, face);
+        constants(c, face);
+        source(face);
+        promisesAreOfTheFace(face);
         Check.end();
     }
 
-    private static void methods(Class<?> c) {
-        Set<String> due = new TreeSet<>(Arrays.asList(METHODS));
-        Set<String> names = new TreeSet<>();
-        for (String method : METHODS) {
-            names.add(method.substring(method.indexOf(' ') + 1, method.indexOf('(')));
+    /** The document's lines between the braces. */
+    private static List<String> face() {
+        List<String> face = new ArrayList<>();
+        boolean isInside = false;
+        for (String line : Doc.section("The public face").split("\n")) {
+            if (line.equals("}")) {
+                isInside = false;
+            }
+            if (isInside) {
+                face.add(line.trim());
+            }
+            if (line.equals(HEAD)) {
+                isInside = true;
+            }
+        }
+        Check.due("lines of the face: a constant, the constructor and a method for each other promise", face.size(),
+            PROMISES + 1);
+        return face;
+    }
+
+    private static void classItself(Class<?> c) {
+        Check.holds("public final class", Modifier.toString(c.getModifiers()).equals("public final"));
+        Check.holds("it extends Object alone", c.getSuperclass() == Object.class && c.getInterfaces().length == 0);
+        Check.holds("it is in no package", c.getPackageName().isEmpty());
+        Check.holds("it is generic in nothing", c.getTypeParameters().length == 0);
+        for (Class<?> inside : c.getDeclaredClasses()) {
+            int modifiers = inside.getModifiers();
+            Check.holds(inside + " is static and not to be seen from outside", Modifier.isStatic(modifiers)
+                && !Modifier.isPublic(modifiers) && !Modifier.isProtected(modifiers));
+        }
+    }
+
+    private static void constructor(Class<?> c, List<String> face) {
+        Check.holds("the document has the constructor", face.contains(MAKING));
+        Check.due("constructors", c.getDeclaredConstructors().length, 1);
+        for (Constructor<?> made : c.getDeclaredConstructors()) {
+            Check.holds("it is public", Modifier.toString(made.getModifiers()).equals("public"));
+            Check.due("its arguments", made.getParameterCount(), 0);
+        }
+    }
+
+    private static void methods(Class<?> c, List<String> face) {
+        Set<String> due = new TreeSet<>();
+        for (String line : face) {
+            if (line.endsWith(");") && !line.equals(MAKING)) {
+                due.add(line.replaceAll(" \\w+([,)])", "$1").replace(", ", ",").replace(";", ""));
+            }
         }
         Set<String> found = new TreeSet<>();
         for (Method m : c.getDeclaredMethods()) {
-            if (Modifier.isPublic(m.getModifiers())) {
+            if (!Modifier.isPrivate(m.getModifiers())) {
                 found.add(told(m));
-            } else {
-                Check.holds(m + " is private", Modifier.isPrivate(m.getModifiers()));
-                Check.holds(m + " has a name of its own", !names.contains(m.getName()));
             }
         }
-        for (Class<?> inside : c.getDeclaredClasses()) {
-            for (Method m : inside.getDeclaredMethods()) {
-                Check.holds(m + " has a name of its own", !names.contains(m.getName()));
-            }
-        }
-        Check.holds("the methods of the document, found: " + found, found.equals(due));
+        Check.holds("the methods are " + due + ", and not " + found, found.equals(due));
     }
 
     private static String told(Method m) {
-        StringBuilder text = new StringBuilder(m.getReturnType().getName()).append(' ').append(m.getName()).append('(');
+        StringBuilder text = new StringBuilder(Modifier.toString(m.getModifiers()));
+        text.append(' ').append(m.getReturnType().getName()).append(' ').append(m.getName()).append('(');
         for (Class<?> type : m.getParameterTypes()) {
             text.append(text.charAt(text.length() - 1) == '(' ? "" : ",").append(type.getName());
         }
         return text.append(')').toString();
     }
 
-    private static void fields(Class<?> c) {
-        for (Field f : c.getDeclaredFields()) {
-            boolean isNone = f.getName().equals("NONE");
-            Check.due(f + " is public", Modifier.isPublic(f.getModifiers()), isNone);
-            Check.holds(f + " is private or NONE", isNone || Modifier.isPrivate(f.getModifiers()));
-            Check.holds(f + " is final if static",
-                !Modifier.isStatic(f.getModifiers()) || Modifier.isFinal(f.getModifiers()));
+    private static void constants(Class<?> c, List<String> face) throws IllegalAccessException {
+        Set<String> due = new TreeSet<>();
+        for (String line : face) {
+            if (line.contains(" = ")) {
+                due.add(line);
+            }
         }
+        Set<String> found = new TreeSet<>();
+        for (Field f : c.getDeclaredFields()) {
+            if (!Modifier.isPrivate(f.getModifiers())) {
+                found.add(Modifier.toString(f.getModifiers()) + " " + f.getType().getName() + " " + f.getName() + " = "
+                    + f.get(null) + ";");
+            }
+        }
+        Check.holds("the constants are " + due + ", and not " + found, found.equals(due));
     }
 
-    private static void source() throws IOException {
-        String text = Files.readString(Path.of("src/main/java/NumberSieves.java"));
-        String code = text.replaceAll("(?s)/\\*.*?\\*/", " ").replaceAll("//[^\n]*", " ");
-        for (String word : FORBIDDEN) {
-            String whole = word.matches("[a-z]+") ? "\\b" + word + "\\b" : word;
-            Check.holds("no " + word + " in the source", !Pattern.compile(whole).matcher(code).find());
+    /** The source has each line as it stands in the document, the arguments' names too. */
+    private static void source(List<String> face) throws IOException {
+        List<String> lines = Files.readAllLines(Path.of("src/main/java/NumberSieves.java"));
+        Set<String> declared = new TreeSet<>();
+        for (String line : lines) {
+            if (line.trim().startsWith("public ") || line.contains("protected ")) {
+                declared.add(line);
+            }
         }
-        Check.holds("no package line", !code.contains("package "));
+        Set<String> due = new TreeSet<>();
+        due.add(HEAD);
+        for (String line : face) {
+            due.add("    " + (line.endsWith(");") ? line.replace(";", " {") : line));
+        }
+        Check.holds("the source declares " + due + ", and not " + declared, declared.equals(due));
+    }
+
+    private static void promisesAreOfTheFace(List<String> face) {
+        for (int promise = 1; promise <= PROMISES; promise++) {
+            String section = Doc.section("Promise " + promise).trim();
+            String call = section.substring(1, section.indexOf("`: "));
+            boolean isNamed = promise < face.size() && face.get(promise).equals("public " + call + ";");
+            Check.holds("promise " + promise + " is of the face: " + call, isNamed);
+        }
     }
 }

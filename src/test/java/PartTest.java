@@ -5,7 +5,7 @@ public final class PartTest {
     public static void main(String[] args) {
         withoutNumber();
         wrongNumbersLeaveTheFormerOne();
-        NumberSieves x = new NumberSieves();
+        Relay x = new Relay();
         for (int n = 1; n <= 1500; n++) {
             compare(x, n);
             compareByCounting(x, n);
@@ -25,7 +25,7 @@ public final class PartTest {
     }
 
     private static void withoutNumber() {
-        NumberSieves x = new NumberSieves();
+        Relay x = new Relay();
         for (int what = -1; what <= 6; what++) {
             Check.due("parted(" + what + ") without one", x.parted(what), 0);
             Check.due("parts(0, " + what + ") without one", x.parts(0, what), 0);
@@ -38,7 +38,7 @@ public final class PartTest {
     }
 
     private static void wrongNumbersLeaveTheFormerOne() {
-        NumberSieves x = new NumberSieves();
+        Relay x = new Relay();
         Check.due("part(84)", x.part(84), 3);
         long[] wrong = {0, -1, TOP + 1, Long.MAX_VALUE, Long.MIN_VALUE};
         for (long n : wrong) {
@@ -66,7 +66,7 @@ public final class PartTest {
         }
     }
 
-    private static void compare(NumberSieves x, long n) {
+    private static void compare(Relay x, long n) {
         String told = "after part(" + n + "): ";
         int found = x.part(n);
         long rest = n;
@@ -113,7 +113,7 @@ public final class PartTest {
         }
     }
 
-    private static void compareByCounting(NumberSieves x, int n) {
+    private static void compareByCounting(Relay x, int n) {
         long divisors = 0;
         long divisorSum = 0;
         long strangers = 0;
@@ -127,7 +127,7 @@ public final class PartTest {
         Check.due("strangers of " + n, x.parted(3), strangers);
     }
 
-    private static void withoutAtLargeEdges(NumberSieves x) {
+    private static void withoutAtLargeEdges(Relay x) {
         x.part(1);
         Check.due("without(TOP) by 1", x.without(TOP), TOP);
         x.part(TOP);

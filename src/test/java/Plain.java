@@ -73,6 +73,23 @@ final class Plain {
         return told[which];
     }
 
+    /** The sum of one of the rules 0, 1, 2 and 9 over all numbers to n. */
+    static BigInteger ruleUpTo(int rule, long n) {
+        BigInteger big = BigInteger.valueOf(n);
+        BigInteger above = big.add(BigInteger.ONE);
+        BigInteger odd = big.add(above);
+        switch (rule) {
+            case 0:
+                return n > 0 ? BigInteger.ONE : BigInteger.ZERO;
+            case 1:
+                return big;
+            case 2:
+                return big.multiply(above).divide(BigInteger.valueOf(2));
+            default:
+                return big.multiply(above).multiply(odd).divide(BigInteger.valueOf(6));
+        }
+    }
+
     static long product(long[] a, long[] b, int n) {
         long total = 0;
         for (int d = 1; d <= n; d++) {

@@ -1,14 +1,9 @@
 /** Promises 12 to 14: count, sum, among. */
 public final class PrimeSumsTest {
-    private static final int TOP = 2000000;
-
-    private static final boolean[] PRIME = new boolean[TOP + 1];
-    private static final int[] COUNT = new int[TOP + 1];
-    private static final long[] SUM = new long[TOP + 1];
+    private static final int TOP = PrimeTable.TOP;
 
     public static void main(String[] args) {
-        tables();
-        NumberSieves x = new NumberSieves();
+        Relay x = new Relay();
         for (int n = 0; n <= 6000; n++) {
             compare(x, n);
         }
@@ -37,25 +32,12 @@ public final class PrimeSumsTest {
         Check.end();
     }
 
-    private static void tables() {
-        java.util.Arrays.fill(PRIME, 2, TOP + 1, true);
-        for (int p = 2; p * p <= TOP; p++) {
-            for (int v = p * p; PRIME[p] && v <= TOP; v += p) {
-                PRIME[v] = false;
-            }
-        }
-        for (int n = 1; n <= TOP; n++) {
-            COUNT[n] = COUNT[n - 1] + (PRIME[n] ? 1 : 0);
-            SUM[n] = SUM[n - 1] + (PRIME[n] ? n : 0);
-        }
+    private static void compare(Relay x, int n) {
+        Check.due("count(" + n + ")", x.count(n), PrimeTable.COUNT[n]);
+        Check.due("sum(" + n + ")", x.sum(n), PrimeTable.SUM[n]);
     }
 
-    private static void compare(NumberSieves x, int n) {
-        Check.due("count(" + n + ")", x.count(n), COUNT[n]);
-        Check.due("sum(" + n + ")", x.sum(n), SUM[n]);
-    }
-
-    private static void rests(NumberSieves x, Plain.Mixed mixed) {
+    private static void rests(Relay x, Plain.Mixed mixed) {
         int[] bounds = {0, 1, 2, 3, 4, 5, 6, 7, 8, 9, 10, 24, 25, 26, 48, 49, 50, 58, 59, 60, 61, 100, 120, 121, 122,
             168, 169, 1000, 3480, 3481, 3482, (int) mixed.from(1000, 100000), (int) mixed.from(1000, TOP), TOP - 1,
             TOP};
@@ -63,7 +45,7 @@ public final class PrimeSumsTest {
             for (int m = 1; m <= 60; m++) {
                 int[] due = new int[m];
                 for (int p = 2; p <= n; p++) {
-                    due[p % m] += PRIME[p] ? 1 : 0;
+                    due[p % m] += PrimeTable.PRIME[p] ? 1 : 0;
                 }
                 for (int r = 0; r < m; r++) {
                     Check.due("among(" + n + ", " + m + ", " + r + ")", x.among(n, m, r), due[r]);

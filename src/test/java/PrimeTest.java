@@ -3,7 +3,7 @@ public final class PrimeTest {
     private static final long TOP = Plain.TOP;
 
     public static void main(String[] args) {
-        NumberSieves x = new NumberSieves();
+        Relay x = new Relay();
         for (int n = 1; n <= 20000; n++) {
             Check.due("prime(" + n + ")", x.prime(n), Plain.isPrime(n) ? 1 : 0);
         }
@@ -36,7 +36,7 @@ public final class PrimeTest {
         Check.end();
     }
 
-    private static void compare(NumberSieves x, long n) {
+    private static void compare(Relay x, long n) {
         boolean counts = n >= 1 && n <= TOP;
         Check.due("prime(" + n + ")", x.prime(n), counts ? Plain.isPrime(n) ? 1 : 0 : -1);
         Check.due("next(" + n + ", false)", x.next(n, false), counts ? walk(n, 1) : 0);

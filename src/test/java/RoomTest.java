@@ -6,7 +6,9 @@ import java.util.Map;
 
 /** What an object holds stays small, and later calls use it again. */
 public final class RoomTest {
-    private static final int ELEMENTS_MOST = 60000;
+    // As README.md tells.
+    private static final int ELEMENTS_MOST = 50000;
+    private static final int OBJECTS_MOST = 20;
 
     private final Map<Object, Boolean> seen = new IdentityHashMap<>();
     private long elements = 0;
@@ -18,6 +20,7 @@ public final class RoomTest {
         useAll(x);
         RoomTest before = held(x);
         Check.holds("a used object is small: " + before.elements, before.elements < ELEMENTS_MOST);
+        Check.holds("arrays and objects: " + before.seen.size(), before.seen.size() <= OBJECTS_MOST);
         for (int turn = 0; turn < 10; turn++) {
             useAll(x);
         }

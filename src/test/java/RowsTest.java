@@ -14,7 +14,7 @@ public final class RowsTest {
         Check.end();
     }
 
-    private static void compare(String told, NumberSieves x, int row, long[] want) {
+    private static void compare(String told, Relay x, int row, long[] want) {
         long sum = 0;
         Check.due(told + " sumOf(" + row + ", 0)", x.sumOf(row, 0), 0);
         for (int n = 1; n <= TOP; n++) {
@@ -38,7 +38,7 @@ public final class RowsTest {
     }
 
     private static void rules() {
-        NumberSieves x = new NumberSieves();
+        Relay x = new Relay();
         for (int which = 0; which <= 9; which++) {
             Check.due("rule(" + which + ")", x.rule(which), which);
         }
@@ -53,15 +53,28 @@ public final class RowsTest {
     }
 
     private static void sheetsAndTells() {
-        NumberSieves x = new NumberSieves();
+        Relay x = new Relay();
         Check.due("tell without rows", x.tell(0, 1, 5), false);
+        Check.due("sheet()", x.sheet(), 0);
+        compare("a sheet", x, 0, new long[TOP + 1]);
+        for (int first = 1; first <= 3; first++) {
+            everyThirdIsTold(first);
+        }
+        x.rule(1);
+        Check.due("a row by a rule is told over", x.tell(1, 7, -3), true);
+        Check.due("at(1, 7)", x.at(1, 7), -3);
+        Check.due("at(1, 14)", x.at(1, 14), 1);
+    }
+
+    /** Every third, as 600 tells are more than an object's calls. */
+    private static void everyThirdIsTold(int first) {
+        Relay x = new Relay();
         Check.due("sheet()", x.sheet(), 0);
         Check.due("rule(1)", x.rule(1), 1);
         Check.due("sheet()", x.sheet(), 2);
         long[] want = new long[TOP + 1];
-        compare("a sheet", x, 0, want);
         Plain.Mixed mixed = new Plain.Mixed(8);
-        for (int n = 1; n <= TOP; n++) {
+        for (int n = first; n <= TOP; n += 3) {
             want[n] = mixed.any();
             Check.due("tell(0, " + n + ", ..)", x.tell(0, n, want[n]), true);
         }
@@ -80,13 +93,10 @@ public final class RowsTest {
         compare("a told sheet", x, 0, want);
         compare("its neighbour", x, 1, byRule(1));
         compare("the other sheet", x, 2, new long[TOP + 1]);
-        Check.due("a row by a rule is told over", x.tell(1, 7, -3), true);
-        Check.due("at(1, 7)", x.at(1, 7), -3);
-        Check.due("at(1, 14)", x.at(1, 14), 1);
     }
 
     private static void products() {
-        NumberSieves x = new NumberSieves();
+        Relay x = new Relay();
         Plain.Mixed mixed = new Plain.Mixed(9);
         long[] a = told(x, mixed);
         long[] b = told(x, mixed);
@@ -114,10 +124,11 @@ public final class RowsTest {
         Check.due("about(0)", x.about(0), 5);
     }
 
-    private static long[] told(NumberSieves x, Plain.Mixed mixed) {
-        int row = x.sheet();
-        long[] values = new long[TOP + 1];
-        for (int n = 1; n <= TOP; n++) {
+    /** A row by a rule, told over at some hundred places. */
+    private static long[] told(Relay x, Plain.Mixed mixed) {
+        int row = x.rule(2);
+        long[] values = byRule(2);
+        for (int n = 1; n <= TOP; n += (int) mixed.from(1, 11)) {
             values[n] = mixed.any();
             x.tell(row, n, values[n]);
         }
@@ -128,7 +139,7 @@ public final class RowsTest {
         long[] firsts = {1, -1};
         long[] one = byRule(0);
         for (long first : firsts) {
-            NumberSieves x = new NumberSieves();
+            Relay x = new Relay();
             Plain.Mixed mixed = new Plain.Mixed(10);
             long[] a = told(x, mixed);
             a[1] = first;
@@ -146,7 +157,7 @@ public final class RowsTest {
             compare("turned back twice", x, 2, a);
         }
         long[] wrong = {0, 2, -2, 3, Long.MAX_VALUE, Long.MIN_VALUE, 4294967297L, 4294967295L};
-        NumberSieves x = new NumberSieves();
+        Relay x = new Relay();
         x.rule(1);
         for (long first : wrong) {
             x.tell(0, 1, first);
@@ -167,10 +178,11 @@ public final class RowsTest {
     }
 
     private static void sixteenRows() {
-        NumberSieves x = new NumberSieves();
+        Relay x = new Relay();
         for (int row = 0; row < 16; row++) {
             Check.due("about(0)", x.about(0), row);
-            int made = row % 4 == 0 ? x.rule(5) : row % 4 == 1 ? x.sheet() : row % 4 == 2 ? x.product(0, 0) : x.turned(0);
+            int rest = row % 4;
+            int made = rest == 0 ? x.rule(5) : rest == 1 ? x.sheet() : rest == 2 ? x.product(0, 0) : x.turned(0);
             Check.due("row " + row, made, row);
         }
         Check.due("rule with 16", x.rule(1), -1);
@@ -186,7 +198,7 @@ public final class RowsTest {
     }
 
     private static void cleared() {
-        NumberSieves x = new NumberSieves();
+        Relay x = new Relay();
         x.clear();
         Check.due("about(0) after clear", x.about(0), 0);
         x.span(1, 10);
@@ -222,26 +234,26 @@ public final class RowsTest {
     }
 
     private static void sameRows() {
-        NumberSieves x = new NumberSieves();
-        x.sheet();
-        x.sheet();
-        Check.due("same(0, 1)", x.same(0, 1), 0);
-        Check.due("same(0, 0)", x.same(0, 0), 0);
-        for (int n = TOP; n >= 1; n--) {
+        Relay x = new Relay();
+        Plain.Mixed mixed = new Plain.Mixed(11);
+        for (int n = 1; n <= TOP; n++) {
+            x.clear();
+            x.sheet();
+            x.sheet();
+            Check.due("same(0, 1)", x.same(0, 1), 0);
+            Check.due("same(0, 0)", x.same(0, 0), 0);
+            x.tell(1, (int) mixed.from(n, TOP), 5);
+            x.tell(0, (int) mixed.from(n, TOP), 7);
             x.tell(1, n, Long.MIN_VALUE);
             Check.due("same(0, 1)", x.same(0, 1), n);
             Check.due("same(1, 0)", x.same(1, 0), n);
+            x.tell(0, n, Long.MIN_VALUE + 4294967296L);
+            Check.due("rows that part above 32 bits", x.same(0, 1), n);
         }
-        for (int n = 1; n <= TOP; n++) {
-            x.tell(1, n, 0);
-            Check.due("same(0, 1)", x.same(0, 1), n == TOP ? 0 : n + 1);
-        }
-        x.tell(0, 9, 4294967296L);
-        Check.due("rows that part above 32 bits", x.same(0, 1), 9);
     }
 
     private static void wrongRows() {
-        NumberSieves x = new NumberSieves();
+        Relay x = new Relay();
         Check.due("same without rows", x.same(0, 0), -1);
         Check.due("product without rows", x.product(0, 0), -1);
         Check.due("turned without rows", x.turned(0), -1);

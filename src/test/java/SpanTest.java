@@ -7,7 +7,7 @@ public final class SpanTest {
         wrongSpansLeaveTheFormerOne();
         edges();
         Plain.Mixed mixed = new Plain.Mixed(1);
-        NumberSieves x = new NumberSieves();
+        Relay x = new Relay();
         whole(x, 1, 1);
         whole(x, 1, 2000);
         whole(x, 2, 1);
@@ -33,7 +33,7 @@ public final class SpanTest {
     }
 
     private static void withoutSpan() {
-        NumberSieves x = new NumberSieves();
+        Relay x = new Relay();
         for (int what = -2; what <= 6; what++) {
             Check.due("spanned(" + what + ") without a span", x.spanned(what), what == 4 ? 0 : -1);
         }
@@ -46,7 +46,7 @@ public final class SpanTest {
     }
 
     private static void wrongSpansLeaveTheFormerOne() {
-        NumberSieves x = new NumberSieves();
+        Relay x = new Relay();
         Check.due("span(10, 10)", x.span(10, 10), 4);
         long[] froms = {0, -1, Long.MIN_VALUE, Long.MAX_VALUE, TOP + 1, TOP, TOP - 4998, 1, 1, 1, 1, 1};
         int[] manies = {1, 1, 5000, 5000, 1, 2, 5000, 0, -1, 5001, Integer.MAX_VALUE, Integer.MIN_VALUE};
@@ -70,7 +70,7 @@ public final class SpanTest {
     }
 
     private static void edges() {
-        NumberSieves x = new NumberSieves();
+        Relay x = new Relay();
         Check.due("span(TOP - 4999, 5000)", x.span(TOP - 4999, 5000), primesOf(TOP - 4999, 5000));
         Check.due("least(4999)", x.least(4999), 2);
         Check.due("spanned(4)", x.spanned(4), 5000);
@@ -97,12 +97,12 @@ public final class SpanTest {
         return primes;
     }
 
-    private static void whole(NumberSieves x, long from, int many) {
+    private static void whole(Relay x, long from, int many) {
         Check.due("span(" + from + ", " + many + ")", x.span(from, many), primesOf(from, many));
         compareWhole(x, from, many);
     }
 
-    private static void compareWhole(NumberSieves x, long from, int many) {
+    private static void compareWhole(Relay x, long from, int many) {
         String told = "after span(" + from + ", " + many + "): ";
         int gap = 0;
         int twins = 0;
@@ -145,7 +145,7 @@ public final class SpanTest {
 
     /** The document's widest span at its farthest end, by prime tests alone. */
     private static void large() {
-        NumberSieves x = new NumberSieves();
+        Relay x = new Relay();
         Plain.Mixed mixed = new Plain.Mixed(7);
         for (int turn = 0; turn < 6; turn++) {
             long from = mixed.from(TOP / 2, TOP - 4999);

@@ -5,14 +5,14 @@ public final class SumsTest {
     private static final int[] FAR_RULES = {0, 1, 2, 9};
 
     public static void main(String[] args) {
-        NumberSieves x = new NumberSieves();
+        Relay x = new Relay();
         floors(x);
         points(x);
         far(x);
         Check.end();
     }
 
-    private static void floors(NumberSieves x) {
+    private static void floors(Relay x) {
         for (int n = 0; n <= 12; n++) {
             for (int a = 0; a <= 12; a++) {
                 for (int b = 0; b <= 12; b++) {
@@ -47,7 +47,7 @@ public final class SumsTest {
         }
     }
 
-    private static void compareFloors(NumberSieves x, int n, int a, int b, int m) {
+    private static void compareFloors(Relay x, int n, int a, int b, int m) {
         long want = 0;
         for (long k = 0; k < n; k++) {
             want += (a * k + b) / m;
@@ -56,7 +56,7 @@ public final class SumsTest {
     }
 
     /** Over whole periods of m the rests are known: all of them but for a common divisor. */
-    private static void compareLargeFloors(NumberSieves x, int n, int a, int b, int m) {
+    private static void compareLargeFloors(Relay x, int n, int a, int b, int m) {
         BigInteger rests = BigInteger.ZERO;
         long period = 0;
         int over = n % m;
@@ -75,7 +75,7 @@ public final class SumsTest {
         Check.due("floors(" + n + ", " + a + ", " + b + ", " + m + ")", x.floors(n, a, b, m), want);
     }
 
-    private static void points(NumberSieves x) {
+    private static void points(Relay x) {
         long want = 0;
         for (int n = 0; n <= 3000; n++) {
             for (int d = 1; d <= n; d++) {
@@ -100,7 +100,7 @@ public final class SumsTest {
         }
     }
 
-    private static void comparePoints(NumberSieves x, long n) {
+    private static void comparePoints(Relay x, long n) {
         long want = 0;
         for (long y = 1; y <= n; y++) {
             want += n / y;
@@ -108,7 +108,7 @@ public final class SumsTest {
         Check.due("points(" + n + ")", x.points(n), want);
     }
 
-    private static void far(NumberSieves x) {
+    private static void far(Relay x) {
         for (int a : FAR_RULES) {
             for (int b : FAR_RULES) {
                 farBySteps(x, a, b);
@@ -135,7 +135,7 @@ public final class SumsTest {
         return rule == 0 ? n == 1 ? 1 : 0 : rule == 1 ? 1 : rule == 2 ? n : n * n;
     }
 
-    private static void farBySteps(NumberSieves x, int a, int b) {
+    private static void farBySteps(Relay x, int a, int b) {
         long want = 0;
         for (int n = 0; n <= 700; n++) {
             for (int d = 1; d <= n; d++) {
@@ -146,39 +146,24 @@ public final class SumsTest {
     }
 
     /** One term for each d, with no turn at the root. */
-    private static void farByBigNumbers(NumberSieves x, int a, int b, int n) {
+    private static void farByBigNumbers(Relay x, int a, int b, int n) {
         BigInteger want = BigInteger.ZERO;
         for (long d = 1; d <= n; d++) {
             if (at(a, d) != 0) {
-                want = want.add(BigInteger.valueOf(at(a, d)).multiply(upTo(b, n / d)));
+                want = want.add(BigInteger.valueOf(at(a, d)).multiply(Plain.ruleUpTo(b, n / d)));
             }
         }
         Check.due("far(" + a + ", " + b + ", " + n + ")", x.far(a, b, n), want.longValue());
     }
 
-    private static BigInteger upTo(int rule, long n) {
-        BigInteger big = BigInteger.valueOf(n);
-        BigInteger above = big.add(BigInteger.ONE);
-        BigInteger odd = big.add(above);
-        switch (rule) {
-            case 0:
-                return n > 0 ? BigInteger.ONE : BigInteger.ZERO;
-            case 1:
-                return big;
-            case 2:
-                return big.multiply(above).divide(BigInteger.valueOf(2));
-            default:
-                return big.multiply(above).multiply(odd).divide(BigInteger.valueOf(6));
-        }
-    }
-
     /** Runs of d with the same n / d, exactly, and cut to 64 bits at the end alone. */
-    private static void farAtTheTop(NumberSieves x, int a, int b, int n) {
+    private static void farAtTheTop(Relay x, int a, int b, int n) {
         BigInteger want = BigInteger.ZERO;
         for (long d = 1; d <= n;) {
             long other = n / d;
             long last = n / other;
-            want = want.add(upTo(a, last).subtract(upTo(a, d - 1)).multiply(upTo(b, other)));
+            BigInteger run = Plain.ruleUpTo(a, last).subtract(Plain.ruleUpTo(a, d - 1));
+            want = want.add(run.multiply(Plain.ruleUpTo(b, other)));
             d = last + 1;
         }
         Check.due("far(" + a + ", " + b + ", " + n + ")", x.far(a, b, n), want.longValue());
